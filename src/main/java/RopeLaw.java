@@ -1078,7 +1078,8 @@ public final class RopeLaw {
             }
             int most = NONE;
             boolean more = true;
-            for (int turn = 0; turn < ORDERS && more; turn++) {
+            // No order does better than all pitches, so the first that has them is the one.
+            for (int turn = 0; turn < ORDERS && more && most < TOP; turn++) {
                 int times = timesSaying(scene, climber);
                 if (times > most) {
                     most = times;

@@ -22,6 +22,7 @@ public final class PromisesTest {
         rest();
         go();
         undo();
+        undoLastEight();
         of();
         hangs();
         says();
@@ -106,6 +107,13 @@ public final class PromisesTest {
         for (int i = 0; i < 8 && x.count(1) < 8; i++) {
             x.go();
         }
+    }
+
+    private static void goTo(RopeLaw x, int p) {
+        for (int i = 0; i < 8 && x.count(1) < p; i++) {
+            x.go();
+        }
+        due("they are at", x.count(1), p);
     }
 
     private static RopeLaw withClimbers(int[]... climbers) {
@@ -304,7 +312,7 @@ public final class PromisesTest {
         due("ICE as at first", x.ice(2, 0), 0);
         due("IMAGES stay", x.from(0), 1);
         due("count(0)", x.count(0), 2);
-        type(x, "  wall ; pitch7 09 8 08;pitch 0 3 2 5;ice 3;ice 3;ice6 ;climber 5 30 9;"
+        type(x, "  wall ; pitch7 09 8 08;pitch 0 3 2 5;ice 3;ice 7;ice6 ;climber 5 30 9;"
             + "climber 0 01 00 7 0 7 3;pitch 0 4 1 6 ;  ");
         due("read()", x.read(), 9);
         due("count(0)", x.count(0), 2);
@@ -318,7 +326,7 @@ public final class PromisesTest {
         due("HARD of 0", x.pitch(0, 0, 1, 1), 4);
         due("HARD of 7", x.pitch(7, 0, 8, 8), 9);
         for (int p = 0; p < 8; p++) {
-            due("ICE of " + p, x.ice(p, 0), p == 3 || p == 6 ? 1 : 0);
+            due("ICE of " + p, x.ice(p, 0), p == 3 || p == 6 || p == 7 ? 1 : 0);
         }
         due("none was refused", x.status(0) + x.status(1) + x.status(2), 1);
         x.rest(0, 1);
@@ -350,6 +358,8 @@ public final class PromisesTest {
         fault(x, "walls;", 0);
         fault(x, " Wall;", 1);
         fault(x, "waLl;", 0);
+        fault(x, "tall;", 0);
+        fault(x, "wallz;", 0);
         fault(x, ";", 0);
         fault(x, " 1;", 1);
         fault(x, "-", 0);
@@ -515,6 +525,26 @@ public final class PromisesTest {
         due("SAGS stays", x.of(0, 4), 1);
     }
 
+    /** Each of the last eight goes back to what stood ahead of it, though older ones have dropped out. */
+    private static void undoLastEight() {
+        RopeLaw x = withClimbers(one(GUIDE, 10, 0, 0), one(GUIDE, 9, 0, 0));
+        long[] digests = new long[12];
+        for (int i = 0; i < 12; i++) {
+            digests[i] = fold(x.of(0, 4), x.of(1, 4), x.of(0, 5), x.of(1, 5));
+            int c = i % 3 == 0 ? 1 : 0;
+            if (i % 2 == 0) {
+                x.sag(c, 1 - x.of(c, 4));
+            } else {
+                x.rest(c, 1 - x.of(c, 5));
+            }
+        }
+        for (int i = 11; i >= 4; i--) {
+            due("undo()", x.undo(), 0);
+            due("who SAGS, RESTS as ahead of call " + i, fold(x.of(0, 4), x.of(1, 4), x.of(0, 5), x.of(1, 5)), digests[i]);
+        }
+        no(x, "undo()", x::undo);
+    }
+
     private static void of() {
         promise = "13";
         RopeLaw x = withClimbers(one(PLAIN, 1, 9, 255), one(SHORT, 30, 3, 77));
@@ -609,6 +639,10 @@ public final class PromisesTest {
         due("from the PITCH as it is", x.path(0), 4);
         due("how many", x.path(-1), 5);
         goToTop(x);
+        RopeLaw y = withClimbers(one(GUIDE, 8, 0, 255), one(PLAIN, 10, 0, 0));
+        y.pitch(0, 0, 1, 2);
+        y.pitch(1, 0, 2, 3);
+        due("nobody SAGS later on", y.path(1), 2);
         notRefused(x, "at THE TOP", () -> x.path(-1), 0);
         notRefused(x, "path(0) at THE TOP", () -> x.path(0), -5);
         for (int w : new int[] {-2, -10, LOWEST}) {
@@ -714,6 +748,10 @@ public final class PromisesTest {
         due("of them on ICE", x.canSay(1), 2 | 4 | 8);
         due("SAGS stays", x.of(2, 4), 1);
         due("no CLIMBERS", new RopeLaw().canSay(7), 0);
+        RopeLaw y = withClimbers(one(LIGHT, 10, 0, 0), one(LEADER, 3, 0, 0));
+        due("the first, if nobody SAGS, the other, if it does", y.canSay(0), 3);
+        RopeLaw z = withClimbers(one(GUIDE, 1, 0, 0), one(PLAIN, 2, 0, 0));
+        due("the other way about", z.canSay(7), 3);
         for (int w : new int[] {-1, 8, LOWEST, GREATEST}) {
             bad(x, "canSay(" + w + ")", () -> x.canSay(w));
         }
@@ -800,6 +838,8 @@ public final class PromisesTest {
         }
         x.go();
         due("at this PITCH", x.cut(0, 1), 3);
+        goTo(x, 7);
+        due("at PITCH 7", x.cut(2, 1), 4);
         goToTop(x);
         no(x, "cut(0, 0) at THE TOP", () -> x.cut(0, 0));
         otherBad(x, "BAD ahead of NO", () -> x.cut(4, 0));
@@ -835,6 +875,13 @@ public final class PromisesTest {
             bad(x, "rests(0, " + w + ")", () -> x.rests(0, w));
         }
         bad(x, "alike", () -> x.rests(1, 1));
+        goTo(x, 7);
+        x.rest(1, 0);
+        x.rest(2, 0);
+        due("at PITCH 7: 1 says, if it SAGS, else 2, and 0 never", x.rests(0, 1), 4 | 8);
+        x.rest(2, 1);
+        due("1 says in any case", x.rests(0, 1), 15);
+        due("1 says in any case", x.rests(1, 2), 15);
         goToTop(x);
         no(x, "rests(0, 1) at THE TOP", () -> x.rests(0, 1));
         bad(x, "BAD ahead of NO", () -> x.rests(0, 0));
@@ -957,6 +1004,12 @@ public final class PromisesTest {
         due("nobody SAGS", y.look(0), 0);
         y.climber(FAT, 4, 0, 0);
         due("by 6, by 6 still", y.look(0), 0);
+        RopeLaw z = withClimbers(one(PLAIN, 1, 0, 0), one(FAT, 1, 0, 0));
+        z.pitch(7, 5, 8, 8);
+        due("PITCH 7", z.look(0), 7);
+        z.pitch(7, 0, 8, 8);
+        z.pitch(6, 1, 7, 7);
+        due("STONE 0 alone is parted from the others", z.look(0), 6);
         for (int w : new int[] {-1, 2, LOWEST, GREATEST}) {
             bad(x, "look(" + w + ")", () -> x.look(w));
         }
@@ -1013,10 +1066,13 @@ public final class PromisesTest {
         for (int w : new int[] {-1, 11, LOWEST, GREATEST}) {
             bad(x, "slips(0, " + w + ")", () -> x.slips(0, w));
         }
+        goTo(x, 7);
+        x.slips(0, 2);
+        fraction(x, "at PITCH 7", 1, 5);
         goToTop(x);
         no(x, "slips(0, 1) at THE TOP", () -> x.slips(0, 1));
         bad(x, "BAD ahead of NO", () -> x.slips(0, 11));
-        fraction(x, "THE FRACTION stays", 6561, 10000);
+        fraction(x, "THE FRACTION stays", 1, 5);
     }
 
     private static void walls() {
@@ -1050,6 +1106,7 @@ public final class PromisesTest {
             bad(x, "walls(0, 0, " + w + ")", () -> x.walls(0, 0, w));
         }
         due("of none", new RopeLaw().walls(5, 60, 0), 60);
+        due("through all PITCHES", new RopeLaw().walls(5, 60, 8), 60);
     }
 
     /** On the wall of walls(): from pitch 2, RIGHT where 1 or 2 sags (14, 11 above 10), else LEFT. */
@@ -1084,6 +1141,7 @@ public final class PromisesTest {
 
     private static void images() {
         promise = "31";
+        imagesOfPitches();
         RopeLaw x = withClimbers(one(PLAIN, 10, 0, 0), one(GUIDE, 8, 3, 1));
         x.pitch(0, 3, 2, 4);
         x.ice(5, 1);
@@ -1127,6 +1185,19 @@ public final class PromisesTest {
         x.from(0);
         due("THE FRACTION stays", x.part(1), 2);
         due("STATUS stays", x.status(0), bads);
+    }
+
+    private static void imagesOfPitches() {
+        for (int p = 0; p < 8; p++) {
+            RopeLaw x = new RopeLaw();
+            x.pitch(p, p + 1, Math.min(p + 2, 8), 8);
+            x.ice(p, 1);
+            long digest = x.digest();
+            x.image(0);
+            x.wall();
+            x.from(0);
+            due("PITCH " + p + " from an IMAGE", x.digest(), digest);
+        }
     }
 
     private static void status() {
