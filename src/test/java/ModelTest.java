@@ -21,8 +21,8 @@ public final class ModelTest {
     private static final int[] EDGES = {-2, -1, 0, 1, 2, 3, 4, 5, 6, 7, 8, 9, 10, 11, 30, 31, 60, 61, 127, 128, 255,
         256, 999999, 1000000, -10, Integer.MIN_VALUE, Integer.MAX_VALUE};
 
-    private static final int RUNS = 2500;
-    private static final int CALLS = 500;
+    private static final int RUNS = 6000;
+    private static final int MOST_BYTES = 150;
 
     public static void main(String[] args) {
         int wrong = 0;
@@ -38,31 +38,30 @@ public final class ModelTest {
     private static boolean oneRun(int run) {
         Random dice = new Random(run * 7919L + 1);
         int wildness = run % 4 == 0 ? 12 : 60;
-        RopeLaw x = new RopeLaw();
+        Counted x = new Counted();
         Model model = new Model();
         List<String> done = new ArrayList<>();
-        int calls = 0;
-        while (calls < CALLS) {
+        // The call itself, and the digest behind it.
+        while (x.left() >= 2) {
             int which = pick(dice);
-            if (NAMES[which].equals("read") && calls + 160 < CALLS) {
-                String text = someText(dice);
-                calls += typeBoth(x, model, text, done);
+            if (NAMES[which].equals("read") && x.left() > MOST_BYTES + 3) {
+                typeBoth(x, model, someText(dice), done);
             }
             int[] a = arguments(which, dice, model, wildness);
             long want = model.call(which, a);
             long got = callReal(x, which, a);
             done.add(NAMES[which] + Arrays.toString(a) + " = " + got);
-            calls++;
-            if (got != want || x.digest() != model.digest()) {
+            long digest = x.digest();
+            if (got != want || digest != model.digest()) {
                 System.out.println("run " + run + ": due is " + want + ", digest " + model.digest() + " is "
-                    + x.digest() + " behind " + done);
+                    + digest + " behind " + done);
                 return false;
             }
         }
         return true;
     }
 
-    private static int typeBoth(RopeLaw x, Model model, String text, List<String> done) {
+    private static void typeBoth(Counted x, Model model, String text, List<String> done) {
         x.clear();
         model.text.setLength(0);
         for (int i = 0; i < text.length(); i++) {
@@ -70,7 +69,6 @@ public final class ModelTest {
             model.call(4, new int[] {text.charAt(i), 0, 0, 0});
         }
         done.add("typed '" + text + "'");
-        return text.length() + 1;
     }
 
     private static int pick(Random dice) {
@@ -159,10 +157,10 @@ public final class ModelTest {
                 default -> b.setLength(dice.nextInt(4) == 0 ? at : b.length());
             }
         }
-        return b.length() > 150 ? b.substring(0, 150) : b.toString();
+        return b.length() > MOST_BYTES ? b.substring(0, MOST_BYTES) : b.toString();
     }
 
-    private static long callReal(RopeLaw x, int which, int[] a) {
+    private static long callReal(Counted x, int which, int[] a) {
         return switch (NAMES[which]) {
             case "wall" -> x.wall();
             case "pitch" -> x.pitch(a[0], a[1], a[2], a[3]);

@@ -60,7 +60,7 @@ public final class PromisesTest {
     }
 
     /** A refused call changes nothing but its own reason's number. */
-    private static void refused(RopeLaw x, int reason, String what, LongSupplier call, long want) {
+    private static void refused(Counted x, int reason, String what, LongSupplier call, long want) {
         long digest = x.digest();
         int[] status = {x.status(0), x.status(1), x.status(2)};
         due(what, call.getAsLong(), want);
@@ -71,24 +71,24 @@ public final class PromisesTest {
         due(what + ", then digest()", x.digest(), digest);
     }
 
-    private static void bad(RopeLaw x, String what, LongSupplier call) {
+    private static void bad(Counted x, String what, LongSupplier call) {
         refused(x, 0, what, call, RopeLaw.BAD);
     }
 
-    private static void otherBad(RopeLaw x, String what, LongSupplier call) {
+    private static void otherBad(Counted x, String what, LongSupplier call) {
         refused(x, 0, what, call, -10);
     }
 
-    private static void no(RopeLaw x, String what, LongSupplier call) {
+    private static void no(Counted x, String what, LongSupplier call) {
         refused(x, 1, what, call, RopeLaw.NO);
     }
 
-    private static void full(RopeLaw x, String what, LongSupplier call) {
+    private static void full(Counted x, String what, LongSupplier call) {
         refused(x, 2, what, call, RopeLaw.FULL);
     }
 
     /** A call that is answered with less than there might be, but is not refused. */
-    private static void notRefused(RopeLaw x, String what, LongSupplier call, long want) {
+    private static void notRefused(Counted x, String what, LongSupplier call, long want) {
         long digest = x.digest();
         int all = x.status(0) + x.status(1) + x.status(2);
         due(what, call.getAsLong(), want);
@@ -96,28 +96,28 @@ public final class PromisesTest {
         due(what + ", then digest()", x.digest(), digest);
     }
 
-    private static void type(RopeLaw x, String text) {
+    private static void type(Counted x, String text) {
         x.clear();
         for (int i = 0; i < text.length(); i++) {
             x.type(text.charAt(i));
         }
     }
 
-    private static void goToTop(RopeLaw x) {
+    private static void goToTop(Counted x) {
         for (int i = 0; i < 8 && x.count(1) < 8; i++) {
             x.go();
         }
     }
 
-    private static void goTo(RopeLaw x, int p) {
+    private static void goTo(Counted x, int p) {
         for (int i = 0; i < 8 && x.count(1) < p; i++) {
             x.go();
         }
         due("they are at", x.count(1), p);
     }
 
-    private static RopeLaw withClimbers(int[]... climbers) {
-        RopeLaw x = new RopeLaw();
+    private static Counted withClimbers(int[]... climbers) {
+        Counted x = new Counted();
         for (int[] c : climbers) {
             x.climber(c[0], c[1], c[2], c[3]);
         }
@@ -132,7 +132,7 @@ public final class PromisesTest {
 
     private static void newObject() {
         promise = "1";
-        RopeLaw x = new RopeLaw();
+        Counted x = new Counted();
         for (int what = 0; what <= 6; what++) {
             due("count(" + what + ")", x.count(what), 0);
         }
@@ -151,7 +151,7 @@ public final class PromisesTest {
         no(x, "from(1)", () -> x.from(1));
         no(x, "undo()", x::undo);
         due("read()", x.read(), -10);
-        RopeLaw y = withClimbers(one(PLAIN, 1, 0, 255));
+        Counted y = withClimbers(one(PLAIN, 1, 0, 255));
         for (int p = 0; p < 8; p++) {
             due("to the RIGHT at first", y.go(), p + 1);
         }
@@ -159,7 +159,7 @@ public final class PromisesTest {
 
     private static void wall() {
         promise = "2";
-        RopeLaw x = withClimbers(one(PLAIN, 9, 1, 0), one(GUIDE, 6, 2, 3));
+        Counted x = withClimbers(one(PLAIN, 9, 1, 0), one(GUIDE, 6, 2, 3));
         x.pitch(3, 4, 5, 6);
         x.ice(2, 1);
         x.rest(0, 1);
@@ -190,7 +190,7 @@ public final class PromisesTest {
 
     private static void pitch() {
         promise = "3";
-        RopeLaw x = withClimbers(one(FAT, 1, 0, 1));
+        Counted x = withClimbers(one(FAT, 1, 0, 1));
         due("pitch(0, 9, 1, 8)", x.pitch(0, 9, 1, 8), 0);
         due("pitch(0, 3, 2, 5)", x.pitch(0, 3, 2, 5), 9);
         due("hangs(0, 0)", x.hangs(0, 0), 4);
@@ -213,7 +213,7 @@ public final class PromisesTest {
 
     private static void ice() {
         promise = "4";
-        RopeLaw x = withClimbers(one(PLAIN, 1, 0, 0), one(PLAIN, 30, 0, 0));
+        Counted x = withClimbers(one(PLAIN, 1, 0, 0), one(PLAIN, 30, 0, 0));
         due("says(7)", x.says(7), 1);
         due("ice(7, 1)", x.ice(7, 1), 0);
         due("says(7) on ICE", x.says(7), 0);
@@ -232,7 +232,7 @@ public final class PromisesTest {
 
     private static void climber() {
         promise = "5";
-        RopeLaw x = new RopeLaw();
+        Counted x = new Counted();
         due("climber(0, 1, 0, 0)", x.climber(0, 1, 0, 0), 0);
         due("climber(5, 30, 9, 255)", x.climber(5, 30, 9, 255), 1);
         int[][] wrongs = {{-1, 1, 0, 0}, {6, 1, 0, 0}, {0, 0, 0, 0}, {0, 31, 0, 0}, {0, 1, -1, 0}, {0, 1, 10, 0},
@@ -268,7 +268,7 @@ public final class PromisesTest {
 
     private static void typeAndClear() {
         promise = "6";
-        RopeLaw x = new RopeLaw();
+        Counted x = new Counted();
         for (int w : new int[] {-1, 128, LOWEST, GREATEST}) {
             bad(x, "type(" + w + ")", () -> x.type(w));
         }
@@ -290,7 +290,7 @@ public final class PromisesTest {
 
     private static void read() {
         promise = "8";
-        RopeLaw x = withClimbers(one(PLAIN, 9, 1, 0), one(GUIDE, 6, 2, 3));
+        Counted x = withClimbers(one(PLAIN, 9, 1, 0), one(GUIDE, 6, 2, 3));
         x.pitch(3, 4, 5, 6);
         x.ice(2, 1);
         x.rest(0, 1);
@@ -339,91 +339,89 @@ public final class PromisesTest {
         due("count(0)", x.count(0), 5);
     }
 
-    private static void fault(RopeLaw x, String text, int place) {
+    private static void fault(String text, int place) {
+        Counted x = withClimbers(one(PLAIN, 5, 1, 0), one(GUIDE, 6, 2, 3));
+        x.pitch(2, 7, 4, 6);
+        x.note(3, -1);
+        x.sag(1, 1);
         type(x, text);
         notRefused(x, "read() of '" + text + "'", x::read, -10 - place);
     }
 
     private static void readFaults() {
         promise = "8";
-        RopeLaw x = withClimbers(one(PLAIN, 5, 1, 0), one(GUIDE, 6, 2, 3));
-        x.pitch(2, 7, 4, 6);
-        x.note(3, -1);
-        x.sag(1, 1);
-        fault(x, "", 0);
-        fault(x, "   ", 3);
-        fault(x, "wall", 4);
-        fault(x, "wall  ", 6);
-        fault(x, "wal;", 0);
-        fault(x, "walls;", 0);
-        fault(x, " Wall;", 1);
-        fault(x, "waLl;", 0);
-        fault(x, "tall;", 0);
-        fault(x, "wallz;", 0);
-        fault(x, ";", 0);
-        fault(x, " 1;", 1);
-        fault(x, "-", 0);
-        fault(x, "ice 0;wall;", 0);
-        fault(x, "climber 0 1 0;", 0);
-        fault(x, "wall;wall;", 5);
-        fault(x, "wall;ice 0;wall;", 11);
-        fault(x, "wall wall;", 5);
-        fault(x, "wall 1;", 5);
-        fault(x, "wall;;", 5);
-        fault(x, "wall; 3;", 6);
-        fault(x, "wall;rope;", 5);
-        fault(x, "wall;pit", 5);
-        fault(x, "wall;icy 0;", 5);
-        fault(x, "wall;\nice 0;", 5);
-        fault(x, "wall;ice", 8);
-        fault(x, "wall;ice 0", 10);
-        fault(x, "wall;ice 0 ", 11);
-        fault(x, "wall;ice;", 8);
-        fault(x, "wall;ice 8;", 9);
-        fault(x, "wall;ice 007;", 9);
-        fault(x, "wall;ice 0071", 9);
-        fault(x, "wall;ice 0 7;", 11);
-        fault(x, "wall;ice 0wall;", 10);
-        fault(x, "wall;ice 0{", 10);
-        fault(x, "wall;ice /", 9);
-        fault(x, "wall;ice :", 9);
-        fault(x, "wall;ice `", 9);
-        fault(x, "wall;ice -1;", 9);
-        fault(x, "wall;ice x;", 9);
-        fault(x, "wall;ice 000000000000000000000000000000;", 9);
-        fault(x, "wall;climber 0 1 0;climber 0 1 0;climber 0 1 0;climber 0 1 0;climber 0 1 0;climber 9 x", 75);
-        fault(x, "wall;climber 0 1 0;climber 0 1 0;climber 0 1 0;climber 0 1 0;climber 0 1 0;climber", 75);
+        fault("", 0);
+        fault("   ", 3);
+        fault("wall", 4);
+        fault("wall  ", 6);
+        fault("wal;", 0);
+        fault("walls;", 0);
+        fault(" Wall;", 1);
+        fault("waLl;", 0);
+        fault("tall;", 0);
+        fault("wallz;", 0);
+        fault(";", 0);
+        fault(" 1;", 1);
+        fault("-", 0);
+        fault("ice 0;wall;", 0);
+        fault("climber 0 1 0;", 0);
+        fault("wall;wall;", 5);
+        fault("wall;ice 0;wall;", 11);
+        fault("wall wall;", 5);
+        fault("wall 1;", 5);
+        fault("wall;;", 5);
+        fault("wall; 3;", 6);
+        fault("wall;rope;", 5);
+        fault("wall;pit", 5);
+        fault("wall;icy 0;", 5);
+        fault("wall;\nice 0;", 5);
+        fault("wall;ice", 8);
+        fault("wall;ice 0", 10);
+        fault("wall;ice 0 ", 11);
+        fault("wall;ice;", 8);
+        fault("wall;ice 8;", 9);
+        fault("wall;ice 007;", 9);
+        fault("wall;ice 0071", 9);
+        fault("wall;ice 0 7;", 11);
+        fault("wall;ice 0wall;", 10);
+        fault("wall;ice 0{", 10);
+        fault("wall;ice /", 9);
+        fault("wall;ice :", 9);
+        fault("wall;ice `", 9);
+        fault("wall;ice -1;", 9);
+        fault("wall;ice x;", 9);
+        fault("wall;ice 000000000000000000000000000000;", 9);
+        fault("wall;climber 0 1 0;climber 0 1 0;climber 0 1 0;climber 0 1 0;climber 0 1 0;climber 9 x", 75);
+        fault("wall;climber 0 1 0;climber 0 1 0;climber 0 1 0;climber 0 1 0;climber 0 1 0;climber", 75);
     }
 
     private static void readBounds() {
         promise = "8";
-        RopeLaw x = new RopeLaw();
-        fault(x, "wall;pitch 8 0 8 8;", 11);
-        fault(x, "wall;pitch 0 10 1 1;", 13);
-        fault(x, "wall;pitch 0 0 0 1;", 15);
-        fault(x, "wall;pitch 0 0 9 1;", 15);
-        fault(x, "wall;pitch 0 0 1 0;", 17);
-        fault(x, "wall;pitch 0 0 1 9;", 17);
-        fault(x, "wall;pitch 5 0 5 6;", 15);
-        fault(x, "wall;pitch 5 0 6 5;", 17);
-        fault(x, "wall;pitch 0 0 1;", 16);
-        fault(x, "wall;pitch 0 0 1 1 1;", 19);
-        fault(x, "wall;pitch 0 0 1 1", 18);
-        fault(x, "wall;climber 6 1 0;", 13);
-        fault(x, "wall;climber 0 0 0;", 15);
-        fault(x, "wall;climber 0 31 0;", 15);
-        fault(x, "wall;climber 0 30 10;", 18);
-        fault(x, "wall;climber 0 30;", 17);
-        fault(x, "wall;climber 0 30 9 8;", 20);
-        fault(x, "wall;climber 0 30 9 7 007;", 22);
-        fault(x, "wall;climber 0 30 9 7 ice;", 22);
-        fault(x, "wall;climber 0 30 9 7", 21);
-        due("count(0)", x.count(0), 0);
+        fault("wall;pitch 8 0 8 8;", 11);
+        fault("wall;pitch 0 10 1 1;", 13);
+        fault("wall;pitch 0 0 0 1;", 15);
+        fault("wall;pitch 0 0 9 1;", 15);
+        fault("wall;pitch 0 0 1 0;", 17);
+        fault("wall;pitch 0 0 1 9;", 17);
+        fault("wall;pitch 5 0 5 6;", 15);
+        fault("wall;pitch 5 0 6 5;", 17);
+        fault("wall;pitch 0 0 1;", 16);
+        fault("wall;pitch 0 0 1 1 1;", 19);
+        fault("wall;pitch 0 0 1 1", 18);
+        fault("wall;climber 6 1 0;", 13);
+        fault("wall;climber 0 0 0;", 15);
+        fault("wall;climber 0 31 0;", 15);
+        fault("wall;climber 0 30 10;", 18);
+        fault("wall;climber 0 30;", 17);
+        fault("wall;climber 0 30 9 8;", 20);
+        fault("wall;climber 0 30 9 7 007;", 22);
+        fault("wall;climber 0 30 9 7 ice;", 22);
+        fault("wall;climber 0 30 9 7", 21);
     }
 
     private static void sag() {
         promise = "9";
-        RopeLaw x = withClimbers(one(GUIDE, 1, 0, 0), one(GUIDE, 1, 0, 0));
+        Counted x = withClimbers(one(GUIDE, 1, 0, 0), one(GUIDE, 1, 0, 0));
         due("sag(1, 1)", x.sag(1, 1), 0);
         due("says(0)", x.says(0), 1);
         due("of(0, 4)", x.of(0, 4), 0);
@@ -443,7 +441,7 @@ public final class PromisesTest {
 
     private static void rest() {
         promise = "10";
-        RopeLaw x = withClimbers(one(PLAIN, 2, 0, 0), one(PLAIN, 1, 0, 0));
+        Counted x = withClimbers(one(PLAIN, 2, 0, 0), one(PLAIN, 1, 0, 0));
         due("rest(0, 1)", x.rest(0, 1), 0);
         due("says(0)", x.says(0), 1);
         due("of(0, 5)", x.of(0, 5), 1);
@@ -462,7 +460,7 @@ public final class PromisesTest {
 
     private static void go() {
         promise = "11";
-        RopeLaw x = withClimbers(one(GUIDE, 10, 0, 1 | 4), one(GUIDE, 9, 0, 2));
+        Counted x = withClimbers(one(GUIDE, 10, 0, 1 | 4), one(GUIDE, 9, 0, 2));
         for (int p = 0; p < 7; p++) {
             x.pitch(p, 0, p + 1, Math.min(p + 2, 8));
         }
@@ -485,7 +483,7 @@ public final class PromisesTest {
 
     private static void undo() {
         promise = "12";
-        RopeLaw x = withClimbers(one(GUIDE, 10, 0, 1), one(GUIDE, 9, 0, 0));
+        Counted x = withClimbers(one(GUIDE, 10, 0, 1), one(GUIDE, 9, 0, 0));
         x.pitch(0, 0, 1, 5);
         x.rest(1, 1);
         x.sag(0, 1);
@@ -527,7 +525,7 @@ public final class PromisesTest {
 
     /** Each of the last eight goes back to what stood ahead of it, though older ones have dropped out. */
     private static void undoLastEight() {
-        RopeLaw x = withClimbers(one(GUIDE, 10, 0, 0), one(GUIDE, 9, 0, 0));
+        Counted x = withClimbers(one(GUIDE, 10, 0, 0), one(GUIDE, 9, 0, 0));
         long[] digests = new long[12];
         for (int i = 0; i < 12; i++) {
             digests[i] = fold(x.of(0, 4), x.of(1, 4), x.of(0, 5), x.of(1, 5));
@@ -547,7 +545,7 @@ public final class PromisesTest {
 
     private static void of() {
         promise = "13";
-        RopeLaw x = withClimbers(one(PLAIN, 1, 9, 255), one(SHORT, 30, 3, 77));
+        Counted x = withClimbers(one(PLAIN, 1, 9, 255), one(SHORT, 30, 3, 77));
         x.sag(0, 1);
         x.rest(1, 1);
         int[][] want = {{0, 1, 9, 255, 1, 0}, {4, 30, 3, 77, 0, 1}};
@@ -569,7 +567,7 @@ public final class PromisesTest {
         // Each kind, of WEIGHT 6 and STONE 3 at place 2, HARD 4: neither, SAGS, RESTS, both.
         int[][] want = {{9, 9, 0, 0}, {4, 4, 0, 0}, {9, 14, 0, 5}, {13, 13, 0, 0}, {8, 8, 0, 0}, {0, 14, 0, 5}};
         for (int kind = PLAIN; kind <= LEADER; kind++) {
-            RopeLaw x = withClimbers(one(PLAIN, 1, 0, 0), one(PLAIN, 1, 0, 0), one(kind, 6, 3, 0));
+            Counted x = withClimbers(one(PLAIN, 1, 0, 0), one(PLAIN, 1, 0, 0), one(kind, 6, 3, 0));
             x.pitch(5, 4, 6, 7);
             for (int how = 0; how < 4; how++) {
                 x.sag(2, how & 1);
@@ -577,7 +575,7 @@ public final class PromisesTest {
                 due("KIND " + kind + ", " + how, x.hangs(2, 5), want[kind][how]);
             }
         }
-        RopeLaw x = withClimbers(one(LIGHT, 1, 0, 0), one(SHORT, 1, 0, 0), one(SHORT, 2, 0, 0), one(FAT, 1, 0, 0),
+        Counted x = withClimbers(one(LIGHT, 1, 0, 0), one(SHORT, 1, 0, 0), one(SHORT, 2, 0, 0), one(FAT, 1, 0, 0),
             one(SHORT, 30, 9, 0));
         x.pitch(0, 9, 1, 1);
         due("half of 1", x.hangs(0, 0), 0);
@@ -596,7 +594,7 @@ public final class PromisesTest {
 
     private static void says() {
         promise = "15";
-        RopeLaw x = withClimbers(one(LIGHT, 1, 0, 0), one(FAT, 8, 0, 0), one(PLAIN, 9, 0, 0), one(GUIDE, 5, 4, 0));
+        Counted x = withClimbers(one(LIGHT, 1, 0, 0), one(FAT, 8, 0, 0), one(PLAIN, 9, 0, 0), one(GUIDE, 5, 4, 0));
         x.pitch(1, 1, 2, 2);
         x.pitch(2, 2, 3, 3);
         x.ice(3, 1);
@@ -622,7 +620,7 @@ public final class PromisesTest {
 
     private static void path() {
         promise = "16";
-        RopeLaw x = withClimbers(one(PLAIN, 10, 0, 0), one(GUIDE, 8, 0, 255));
+        Counted x = withClimbers(one(PLAIN, 10, 0, 0), one(GUIDE, 8, 0, 255));
         for (int p = 0; p < 8; p++) {
             x.pitch(p, 0, p + 1, Math.min(p + 3, 8));
         }
@@ -639,7 +637,7 @@ public final class PromisesTest {
         due("from the PITCH as it is", x.path(0), 4);
         due("how many", x.path(-1), 5);
         goToTop(x);
-        RopeLaw y = withClimbers(one(GUIDE, 8, 0, 255), one(PLAIN, 10, 0, 0));
+        Counted y = withClimbers(one(GUIDE, 8, 0, 255), one(PLAIN, 10, 0, 0));
         y.pitch(0, 0, 1, 2);
         y.pitch(1, 0, 2, 3);
         due("nobody SAGS later on", y.path(1), 2);
@@ -652,7 +650,7 @@ public final class PromisesTest {
 
     private static void by() {
         promise = "17";
-        RopeLaw x = withClimbers(one(PLAIN, 10, 0, 0), one(GUIDE, 8, 0, 3), one(LEADER, 6, 0, 7), one(LEADER, 6, 0, 9));
+        Counted x = withClimbers(one(PLAIN, 10, 0, 0), one(GUIDE, 8, 0, 3), one(LEADER, 6, 0, 7), one(LEADER, 6, 0, 9));
         for (int p = 0; p < 8; p++) {
             x.pitch(p, 0, Math.min(p + 2, 8), p + 1);
         }
@@ -700,7 +698,7 @@ public final class PromisesTest {
     }
 
     private static void byLeaders() {
-        RopeLaw x = withClimbers(one(LEADER, 6, 0, 2), one(GUIDE, 5, 0, 0), one(LEADER, 3, 0, 1));
+        Counted x = withClimbers(one(LEADER, 6, 0, 2), one(GUIDE, 5, 0, 0), one(LEADER, 3, 0, 1));
         x.pitch(0, 0, 1, 2);
         x.pitch(1, 0, 2, 3);
         x.pitch(2, 0, 4, 4);
@@ -716,7 +714,7 @@ public final class PromisesTest {
 
     /** Two ways of like numbers of sags: the least bits here, though the sag might come later. */
     private static void byWays() {
-        RopeLaw x = withClimbers(one(PLAIN, 10, 0, 0), one(LEADER, 20, 0, 255));
+        Counted x = withClimbers(one(PLAIN, 10, 0, 0), one(LEADER, 20, 0, 255));
         x.pitch(0, 0, 1, 2);
         x.pitch(1, 0, 3, 4);
         x.pitch(2, 0, 4, 5);
@@ -733,7 +731,7 @@ public final class PromisesTest {
 
     private static void canSay() {
         promise = "18";
-        RopeLaw x = withClimbers(one(PLAIN, 10, 0, 0), one(GUIDE, 6, 0, 0), one(LEADER, 20, 0, 0), one(LEADER, 1, 0, 0));
+        Counted x = withClimbers(one(PLAIN, 10, 0, 0), one(GUIDE, 6, 0, 0), one(LEADER, 20, 0, 0), one(LEADER, 1, 0, 0));
         due("canSay(0)", x.canSay(0), 1 | 2 | 4);
         x.ice(1, 1);
         due("on ICE", x.canSay(1), 1);
@@ -747,10 +745,10 @@ public final class PromisesTest {
         due("those who SAG and REST", x.canSay(0), 2 | 4 | 8);
         due("of them on ICE", x.canSay(1), 2 | 4 | 8);
         due("SAGS stays", x.of(2, 4), 1);
-        due("no CLIMBERS", new RopeLaw().canSay(7), 0);
-        RopeLaw y = withClimbers(one(LIGHT, 10, 0, 0), one(LEADER, 3, 0, 0));
+        due("no CLIMBERS", new Counted().canSay(7), 0);
+        Counted y = withClimbers(one(LIGHT, 10, 0, 0), one(LEADER, 3, 0, 0));
         due("the first, if nobody SAGS, the other, if it does", y.canSay(0), 3);
-        RopeLaw z = withClimbers(one(GUIDE, 1, 0, 0), one(PLAIN, 2, 0, 0));
+        Counted z = withClimbers(one(GUIDE, 1, 0, 0), one(PLAIN, 2, 0, 0));
         due("the other way about", z.canSay(7), 3);
         for (int w : new int[] {-1, 8, LOWEST, GREATEST}) {
             bad(x, "canSay(" + w + ")", () -> x.canSay(w));
@@ -759,7 +757,7 @@ public final class PromisesTest {
 
     private static void mine() {
         promise = "19";
-        RopeLaw x = withClimbers(one(FAT, 8, 0, 0), one(GUIDE, 6, 0, 0), one(LEADER, 8, 0, 0));
+        Counted x = withClimbers(one(FAT, 8, 0, 0), one(GUIDE, 6, 0, 0), one(LEADER, 8, 0, 0));
         x.pitch(2, 3, 3, 3);
         x.pitch(5, 6, 6, 6);
         x.ice(7, 1);
@@ -777,7 +775,7 @@ public final class PromisesTest {
         }
     }
 
-    private static void order(RopeLaw x, int climber, int most, int... order) {
+    private static void order(Counted x, int climber, int most, int... order) {
         due("tied(" + climber + ", -1)", x.tied(climber, -1), most);
         for (int i = 0; i < order.length; i++) {
             due("tied(" + climber + ", " + i + ")", x.tied(climber, i), order[i]);
@@ -786,7 +784,7 @@ public final class PromisesTest {
 
     private static void tied() {
         promise = "20";
-        RopeLaw x = withClimbers(one(PLAIN, 10, 0, 0), one(SHORT, 14, 0, 0), one(FAT, 9, 0, 0), one(LEADER, 30, 9, 0));
+        Counted x = withClimbers(one(PLAIN, 10, 0, 0), one(SHORT, 14, 0, 0), one(FAT, 9, 0, 0), one(LEADER, 30, 9, 0));
         x.ice(0, 1);
         x.pitch(1, 1, 2, 2);
         x.pitch(2, 2, 3, 3);
@@ -813,7 +811,7 @@ public final class PromisesTest {
 
     private static void cut() {
         promise = "21";
-        RopeLaw x = withClimbers(one(PLAIN, 10, 0, 0), one(LEADER, 9, 0, 0), one(PLAIN, 9, 0, 0), one(SHORT, 16, 0, 0));
+        Counted x = withClimbers(one(PLAIN, 10, 0, 0), one(LEADER, 9, 0, 0), one(PLAIN, 9, 0, 0), one(SHORT, 16, 0, 0));
         due("cut(0, 0)", x.cut(0, 0), 0);
         due("cut(0, 1): SHORT at place 2", x.cut(0, 1), 3);
         due("cut(1, 1): SHORT at place 1", x.cut(1, 1), 3);
@@ -843,15 +841,15 @@ public final class PromisesTest {
         goToTop(x);
         no(x, "cut(0, 0) at THE TOP", () -> x.cut(0, 0));
         otherBad(x, "BAD ahead of NO", () -> x.cut(4, 0));
-        RopeLaw y = withClimbers(one(PLAIN, 1, 0, 0));
+        Counted y = withClimbers(one(PLAIN, 1, 0, 0));
         otherBad(y, "of one alone", () -> y.cut(0, 0));
-        RopeLaw z = new RopeLaw();
+        Counted z = new Counted();
         otherBad(z, "of none", () -> z.cut(0, 0));
     }
 
     private static void rests() {
         promise = "22";
-        RopeLaw x = withClimbers(one(GUIDE, 10, 0, 0), one(GUIDE, 10, 0, 0), one(PLAIN, 12, 0, 0));
+        Counted x = withClimbers(one(GUIDE, 10, 0, 0), one(GUIDE, 10, 0, 0), one(PLAIN, 12, 0, 0));
         // None: 2 says, a or b would gain. a alone: a says (15). b alone: a gains. Both: a says, b can not.
         due("rests(0, 1)", x.rests(0, 1), 2 | 8);
         due("rests(1, 0)", x.rests(1, 0), 4 | 8);
@@ -889,7 +887,7 @@ public final class PromisesTest {
 
     private static void noteAndForget() {
         promise = "23";
-        RopeLaw x = withClimbers(one(PLAIN, 10, 0, 0), one(PLAIN, 9, 0, 0));
+        Counted x = withClimbers(one(PLAIN, 10, 0, 0), one(PLAIN, 9, 0, 0));
         due("note(0, -1)", x.note(0, -1), 1);
         due("note(7, 1)", x.note(7, 1), 2);
         for (int w : new int[] {-1, 8, LOWEST, GREATEST}) {
@@ -910,14 +908,14 @@ public final class PromisesTest {
         due("stones(0)", x.stones(0), 1023);
         due("note(0, 0)", x.note(0, 0), 1);
         due("forget()", x.forget(), 1);
-        RopeLaw y = new RopeLaw();
+        Counted y = new Counted();
         due("nobody, without CLIMBERS", y.note(0, -1), 1);
         bad(y, "note(0, 0)", () -> y.note(0, 0));
     }
 
     private static void stones() {
         promise = "25";
-        RopeLaw x = withClimbers(one(PLAIN, 10, 7, 0), one(PLAIN, 14, 0, 0), one(GUIDE, 13, 0, 0));
+        Counted x = withClimbers(one(PLAIN, 10, 7, 0), one(PLAIN, 14, 0, 0), one(GUIDE, 13, 0, 0));
         due("no NOTES", x.stones(0), 1023);
         x.note(0, 0);
         due("of like ones the first: 4 to 9", x.stones(0), 1008);
@@ -945,7 +943,7 @@ public final class PromisesTest {
     }
 
     private static void stonesOfNobody() {
-        RopeLaw x = withClimbers(one(LIGHT, 1, 0, 0));
+        Counted x = withClimbers(one(LIGHT, 1, 0, 0));
         x.note(0, -1);
         due("nobody: LIGHT of WEIGHT 1 hangs 0 with STONE 0 alone", x.stones(0), 1);
         due("is(0), nobody: LIGHT, SHORT, LEADER", x.is(0), 2 | 16 | 32);
@@ -955,7 +953,7 @@ public final class PromisesTest {
 
     private static void is() {
         promise = "26";
-        RopeLaw x = withClimbers(one(PLAIN, 10, 0, 0), one(PLAIN, 11, 0, 0), one(PLAIN, 9, 9, 0));
+        Counted x = withClimbers(one(PLAIN, 10, 0, 0), one(PLAIN, 11, 0, 0), one(PLAIN, 9, 9, 0));
         due("no NOTES", x.is(0), 63);
         x.note(0, 2);
         due("18 by PLAIN, GUIDE, FAT; 9 by LIGHT; 13 by SHORT", x.is(2), 1 | 4 | 8 | 16);
@@ -977,7 +975,7 @@ public final class PromisesTest {
 
     private static void look() {
         promise = "27";
-        RopeLaw x = withClimbers(one(PLAIN, 5, 0, 0), one(FAT, 5, 0, 0));
+        Counted x = withClimbers(one(PLAIN, 5, 0, 0), one(FAT, 5, 0, 0));
         int[] hard = {0, 9, 3, 5, 4, 6, 5, 1};
         for (int p = 0; p < 8; p++) {
             x.pitch(p, hard[p], p + 1, p + 1);
@@ -998,13 +996,13 @@ public final class PromisesTest {
         // FAT's own STONE: it says where HARD and STONE are above 0.
         due("look(1): nothing parts better than HARD 0", x.look(1), 0);
         due("STONE stays", x.of(0, 2), 0);
-        RopeLaw y = withClimbers(one(GUIDE, 1, 0, 0), one(PLAIN, 6, 0, 0));
+        Counted y = withClimbers(one(GUIDE, 1, 0, 0), one(PLAIN, 6, 0, 0));
         y.pitch(4, 2, 5, 5);
         y.sag(0, 1);
         due("nobody SAGS", y.look(0), 0);
         y.climber(FAT, 4, 0, 0);
         due("by 6, by 6 still", y.look(0), 0);
-        RopeLaw z = withClimbers(one(PLAIN, 1, 0, 0), one(FAT, 1, 0, 0));
+        Counted z = withClimbers(one(PLAIN, 1, 0, 0), one(FAT, 1, 0, 0));
         z.pitch(7, 5, 8, 8);
         due("PITCH 7", z.look(0), 7);
         z.pitch(7, 0, 8, 8);
@@ -1015,14 +1013,14 @@ public final class PromisesTest {
         }
     }
 
-    private static void fraction(RopeLaw x, String what, long above, long below) {
+    private static void fraction(Counted x, String what, long above, long below) {
         due(what + ": above", x.part(0), above);
         due(what + ": below", x.part(1), below);
     }
 
     private static void slips() {
         promise = "28";
-        RopeLaw x = withClimbers(one(PLAIN, 10, 0, 0), one(PLAIN, 9, 0, 0), one(PLAIN, 8, 0, 0));
+        Counted x = withClimbers(one(PLAIN, 10, 0, 0), one(PLAIN, 9, 0, 0), one(PLAIN, 8, 0, 0));
         due("slips(0, 4)", x.slips(0, 4), 1);
         fraction(x, "nobody RESTS", 1, 1);
         x.slips(1, 4);
@@ -1077,7 +1075,7 @@ public final class PromisesTest {
 
     private static void walls() {
         promise = "29";
-        RopeLaw x = withClimbers(one(PLAIN, 10, 0, 0), one(LEADER, 9, 0, 255), one(LEADER, 6, 0, 255));
+        Counted x = withClimbers(one(PLAIN, 10, 0, 0), one(LEADER, 9, 0, 255), one(LEADER, 6, 0, 255));
         for (int p = 0; p < 8; p++) {
             x.pitch(p, 0, p + 1, Math.min(p + 2, 8));
         }
@@ -1105,8 +1103,8 @@ public final class PromisesTest {
         for (int w : new int[] {-1, 9, LOWEST, GREATEST}) {
             bad(x, "walls(0, 0, " + w + ")", () -> x.walls(0, 0, w));
         }
-        due("of none", new RopeLaw().walls(5, 60, 0), 60);
-        due("through all PITCHES", new RopeLaw().walls(5, 60, 8), 60);
+        due("of none", new Counted().walls(5, 60, 0), 60);
+        due("through all PITCHES", new Counted().walls(5, 60, 8), 60);
     }
 
     /** On the wall of walls(): from pitch 2, RIGHT where 1 or 2 sags (14, 11 above 10), else LEFT. */
@@ -1129,7 +1127,7 @@ public final class PromisesTest {
 
     private static void part() {
         promise = "30";
-        RopeLaw x = withClimbers(one(PLAIN, 10, 0, 0));
+        Counted x = withClimbers(one(PLAIN, 10, 0, 0));
         x.rest(0, 1);
         x.slips(0, 6);
         due("part(0)", x.part(0), 3);
@@ -1142,7 +1140,7 @@ public final class PromisesTest {
     private static void images() {
         promise = "31";
         imagesOfPitches();
-        RopeLaw x = withClimbers(one(PLAIN, 10, 0, 0), one(GUIDE, 8, 3, 1));
+        Counted x = withClimbers(one(PLAIN, 10, 0, 0), one(GUIDE, 8, 3, 1));
         x.pitch(0, 3, 2, 4);
         x.ice(5, 1);
         x.rest(0, 1);
@@ -1189,7 +1187,7 @@ public final class PromisesTest {
 
     private static void imagesOfPitches() {
         for (int p = 0; p < 8; p++) {
-            RopeLaw x = new RopeLaw();
+            Counted x = new Counted();
             x.pitch(p, p + 1, Math.min(p + 2, 8), 8);
             x.ice(p, 1);
             long digest = x.digest();
@@ -1202,7 +1200,7 @@ public final class PromisesTest {
 
     private static void status() {
         promise = "33";
-        RopeLaw x = new RopeLaw();
+        Counted x = new Counted();
         due("status(3)", x.status(3), -1);
         due("counts as BAD", x.status(0), 1);
         due("status(-1)", x.status(-1), -1);
@@ -1225,7 +1223,7 @@ public final class PromisesTest {
 
     private static void count() {
         promise = "34";
-        RopeLaw x = withClimbers(one(PLAIN, 10, 0, 0), one(GUIDE, 8, 3, 1), one(GUIDE, 8, 3, 1), one(GUIDE, 8, 3, 1));
+        Counted x = withClimbers(one(PLAIN, 10, 0, 0), one(GUIDE, 8, 3, 1), one(GUIDE, 8, 3, 1), one(GUIDE, 8, 3, 1));
         x.pitch(0, 0, 5, 6);
         x.go();
         x.sag(1, 1);
@@ -1254,9 +1252,9 @@ public final class PromisesTest {
 
     private static void digest() {
         promise = "35";
-        due("at first", new RopeLaw().digest(), fold(0, 0, 0, 0, 0, 0, 0,
+        due("at first", new Counted().digest(), fold(0, 0, 0, 0, 0, 0, 0,
             0, 0, 1, 1, 0, 0, 2, 2, 0, 0, 3, 3, 0, 0, 4, 4, 0, 0, 5, 5, 0, 0, 6, 6, 0, 0, 7, 7, 0, 0, 8, 8, 0, 1));
-        RopeLaw x = withClimbers(one(PLAIN, 10, 2, 64), one(GUIDE, 8, 3, 1));
+        Counted x = withClimbers(one(PLAIN, 10, 2, 64), one(GUIDE, 8, 3, 1));
         x.pitch(0, 3, 4, 6);
         x.pitch(7, 9, 8, 8);
         x.ice(2, 1);
