@@ -173,11 +173,12 @@ public final class KeptSentencesTest extends Sentences {
         x.go();
         x.image(0);
         for (int i = 0; i < 8; i++) {
-            x.sag(1, i % 2);
+            x.rest(1, i % 2);
         }
         due("from(0)", x.from(0), 1);
         due("undo() of GOING", x.undo(), 3);
         due("who SAG then", x.count(2), 3);
+        due("who REST then", x.count(3), 3);
         for (int c = 2; c >= 0; c--) {
             due("undo() of SAG", x.undo(), 3);
             due("who SAG then", x.count(2), c);
@@ -266,8 +267,8 @@ public final class KeptSentencesTest extends Sentences {
         asks(x, "tied(0, 2), not so many", () -> x.tied(0, 2), -5);
     }
 
-    @Sentence(promise = 33, says = "Refused, changing nothing but STATUS, the first of: BAD -2 a number is not as told; "
-        + "NO -3 as told; FULL -4")
+    @Sentence(promise = 33, says = "Refused, changing nothing but STATUS, the first of: "
+        + "BAD -2 a number is not as told; NO -3 as told; FULL -4")
     static void whatIsRefusedChangesNothingButStatus() {
         Counted x = withClimbers(2);
         x.image(1);

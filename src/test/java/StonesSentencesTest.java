@@ -225,6 +225,12 @@ public final class StonesSentencesTest extends Sentences {
         asks(x, "look(0), where no STONE fits", () -> x.look(0), -1);
         x.forget();
         due("look(0), where all are alike", x.look(0), 0);
+        Counted ice = new Counted();
+        ice.climber(PLAIN, 1, 0, 0);
+        ice.climber(PLAIN, 30, 0, 0);
+        ice.ice(0, 1);
+        due("look(1): never at 0, at the others by any STONE", ice.look(1), 0);
+        due("look(0): at 0 by any STONE, never at the others", ice.look(0), 0);
         Counted one = new Counted();
         one.climber(PLAIN, 10, 0, 0);
         one.climber(PLAIN, 11, 0, 0);
@@ -429,8 +435,9 @@ public final class StonesSentencesTest extends Sentences {
         return x;
     }
 
-    @Sentence(promise = 29, says = "X is SEED at first; each time they go from here to THE TOP, at each PITCH X becomes "
-        + "X times 1103515245 and 12345, by 2147483648 what is left over; X by 65536 (cut), by 32 left over")
+    @Sentence(promise = 29, says = "X is SEED at first; each time they go from here to THE TOP, "
+        + "at each PITCH X becomes X times 1103515245 and 12345, by 2147483648 what is left over; "
+        + "X by 65536 (cut), by 32 left over")
     static void wallsGoesOnWithX() {
         Counted x = leaders(5, 21);
         for (int seed : new int[] {0, 1, 65535, 65536, 999999}) {

@@ -701,7 +701,8 @@ public final class WallSentencesTest extends Sentences {
         no(x, "undo()", x::undo);
     }
 
-    @Sentence(promise = 8, says = "A WALL that is read takes the place of all but IMAGES, THE TEXT, THE FRACTION, STATUS")
+    @Sentence(promise = 8,
+        says = "A WALL that is read takes the place of all but IMAGES, THE TEXT, THE FRACTION, STATUS")
     static void aWallThatIsReadLeavesImagesTextFractionStatus() {
         Counted x = withClimbers(3);
         x.image(1);

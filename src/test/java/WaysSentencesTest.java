@@ -515,7 +515,8 @@ public final class WaysSentencesTest extends Sentences {
         bad(x, "BAD ahead of NO", () -> x.rests(0, 2));
     }
 
-    @Sentence(promise = 22, says = "two unlike CLIMBERS a, b each may SAG or not (instead of as now; all others as now)")
+    @Sentence(promise = 22,
+        says = "two unlike CLIMBERS a, b each may SAG or not (instead of as now; all others as now)")
     static void restsHasAllOthersAsNow() {
         Counted x = new Counted();
         x.climber(LEADER, 5, 0, 0);
