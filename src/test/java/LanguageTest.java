@@ -3,17 +3,13 @@ import java.lang.reflect.Constructor;
 import java.lang.reflect.Field;
 import java.lang.reflect.Method;
 import java.lang.reflect.Modifier;
-import java.nio.file.Files;
-import java.nio.file.Path;
 import java.util.ArrayList;
 import java.util.Arrays;
 import java.util.List;
 import java.util.Set;
 import java.util.TreeSet;
-import java.util.regex.Matcher;
-import java.util.regex.Pattern;
 
-/** The face is the document's, and the source keeps to the rules of LANGUAGE.md that can be looked up in it. */
+/** The face is the document's, what is inside is hidden as LANGUAGE.md wants it, and calls make next to nothing. */
 public final class LanguageTest {
     private static final String[] FACE = {"int wall()", "int pitch(int,int,int,int)", "int ice(int,int)",
         "int climber(int,int,int,int)", "int type(int)", "int clear()", "int read()", "int sag(int,int)",
@@ -22,17 +18,12 @@ public final class LanguageTest {
         "int cut(int,int)", "int rests(int,int)", "int note(int,int)", "int forget()", "int stones(int)",
         "int is(int)", "int look(int)", "int slips(int,int)", "int walls(int,int,int)", "long part(int)",
         "int image(int)", "int from(int)", "int status(int)", "int count(int)", "long digest()"};
-    private static final String[] RULED_OUT = {"\\bthrow\\b", "\\bthrows\\b", "\\btry\\b", "\\bcatch\\b",
-        "\\bsynchronized\\b", "\\bassert\\b", "->", "::", "\\bpackage\\b", "Exact\\b", "\\bThread\\b", "\\bRandom\\b",
-        "System\\.(?!arraycopy\\b)", "\\bequals\\b", "\\bhashCode\\b", "\\btoString\\b", "\\bstatic\\s*\\{",
-        "\\bMath\\.random\\b", "\\bdouble\\b", "\\bfloat\\b", "\\bObject\\b", "\\[\\]\\s*\\[\\]"};
 
     private static int wrong = 0;
 
     public static void main(String[] args) throws Exception {
         face();
         insideClasses();
-        source(withoutWords(Files.readString(Path.of(args[0]))));
         room();
         System.out.println(wrong == 0 ? "the rules are kept" : wrong + " rules are not kept");
         if (wrong != 0) {
@@ -106,37 +97,16 @@ public final class LanguageTest {
         }
     }
 
-    /** Comments and texts are left out, lest their words be taken for code. */
-    private static String withoutWords(String source) {
-        for (int i = 0; i < source.length(); i++) {
-            check(source.charAt(i) < 128, "the source's sign at " + i);
-        }
-        return Pattern.compile("/\\*.*?\\*/|//[^\n]*|\"[^\"\n]*\"", Pattern.DOTALL).matcher(source).replaceAll(" ");
-    }
-
-    private static void source(String code) {
-        for (String rule : RULED_OUT) {
-            check(!Pattern.compile(rule).matcher(code).find(), "without " + rule);
-        }
-        Matcher imports = Pattern.compile("import ([^;]*);").matcher(code);
-        while (imports.find()) {
-            check(Set.of("java.util.Arrays", "java.util.ArrayList", "java.util.List").contains(imports.group(1)),
-                "import " + imports.group(1));
-        }
-        int lines = 0;
-        for (String line : code.split("\n")) {
-            lines = line.matches(" {4}( {4})?[a-zA-Z].*\\) \\{") ? 0 : lines + 1;
-            check(lines <= 60 || !line.matches(" {4}( {4})?\\}"), "a method has at most sixty lines: " + line);
-        }
-    }
-
     /** What the dearest calls make is counted, for all calls of a run live in one room. */
     private static void room() {
         com.sun.management.ThreadMXBean bean = (com.sun.management.ThreadMXBean) ManagementFactory.getThreadMXBean();
         long sum = dearCalls(new RopeLaw());
         long id = Thread.currentThread().getId();
-        RopeLaw x = new RopeLaw();
         long before = bean.getThreadAllocatedBytes(id);
+        RopeLaw x = new RopeLaw();
+        long object = bean.getThreadAllocatedBytes(id) - before;
+        check(object < 16000, "an object makes few rows, not " + object + " bytes");
+        before = bean.getThreadAllocatedBytes(id);
         sum += dearCalls(x);
         long made = bean.getThreadAllocatedBytes(id) - before;
         check(made < 20000, "calls make next to nothing, not " + made + " bytes");

@@ -323,6 +323,8 @@ public final class PromisesTest {
             }
         }
         due("RIGHT of pitch 0, told twice", x.path(0), 6);
+        x.rest(1, 1);
+        due("LEFT of pitch 0, told twice, where nobody says", x.path(0), 1);
         due("HARD of 0", x.pitch(0, 0, 1, 1), 4);
         due("HARD of 7", x.pitch(7, 0, 8, 8), 9);
         for (int p = 0; p < 8; p++) {
